@@ -131,6 +131,15 @@ final class HappeningsTest {
         check.due("cured", x.rule(12), 1);
         check.due("none is left", x.letter(0, 9), 0);
         check.due("delivered once", x.rule(10), 1);
+        SprayedLetters y = Check.told("node 99;node 99;node 99;letter 1 0 2 5 4 60;");
+        y.tick(1);
+        y.meet(0, 1, 99);
+        y.meet(1, 2, 99);
+        check.due("no refusal yet but of what was known", y.refusal(0), 1);
+        y.meet(1, 0, 0);
+        check.due("the other's is cured, too", y.rule(12), 1);
+        check.due("ahead of handing: it is not refused", y.refusal(0), 1);
+        check.due("none is left", y.node(0, 2), 0);
     }
 
     private static void sends() {
@@ -221,6 +230,7 @@ final class HappeningsTest {
         SprayedLetters x = Check.told("node 20;node 20;node 20;letter 1 0 2 5 8 60;letter 4 0 2 18 8 60;meet 2 0 1 99;meet 9 1 2 99;");
         check.due("no images", x.rule(18), 0);
         x.tick(2);
+        check.due("hops, since", x.copy(1, 0, 2) + 10 * x.copy(1, 0, 3), 21);
         check.due("keep(0)", x.keep(0), 0);
         check.due("keep(0) again", x.keep(0), 1);
         check.due("one image", x.rule(18), 1);
@@ -231,7 +241,8 @@ final class HappeningsTest {
         x.set(2, 2);
         x.set(3, 5);
         x.tick(10);
-        x.send(0, 1, 3, 2, 9);
+        x.send(1, 0, 3, 2, 9);
+        x.meet(1, 2, 99);
         check.due("keep(1)", x.keep(1), 0);
         int[] after = whole(x);
         Check.feed(x, "node");

@@ -191,11 +191,12 @@ final class TextTest {
         x.keep(0);
         x.keep(1);
         check.due("a refusal", x.refusal(0) > 0);
-        check.due("anew", Check.text(x, "node 3;node 4;letter 1 0 1 5 2 9;"), 3);
-        int[] rules = {2, 0, 1, 0, 5, 2, 3, 4, 0, 0, 0, 0, 0, 0, 0, 0, 0, 0, 0};
+        check.due("anew", Check.text(x, "node 3;node 4;letter 1 0 1 5 2 9;letter 1 0 1 5 2 9;"), 4);
+        int[] rules = {2, 0, 2, 0, 5, 2, 3, 4, 0, 0, 0, 0, 0, 0, 0, 0, 0, 0, 0};
         for (int what = 0; what <= 18; what++) {
             check.due("anew rule(" + what + ")", x.rule(what), rules[what]);
         }
+        check.due("anew copy", x.copy(0, 0, 0), SprayedLetters.NONE);
         check.due("anew refusal", x.refusal(0), SprayedLetters.STATE);
         check.due("anew last", x.last(0, 1), SprayedLetters.NONE);
         check.due("anew note", x.note(0, 0), 0);

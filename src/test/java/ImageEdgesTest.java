@@ -13,6 +13,7 @@ final class ImageEdgesTest {
         anImageIsTakenAnew();
         anImageStaysAsItWas();
         allThatThereIs();
+        howACopyCame();
         notTheTape();
         notTheImages();
         lettersSentSince();
@@ -136,6 +137,29 @@ final class ImageEdgesTest {
         x.back(1);
         check.due("after", whole(x).equals(after));
         check.due("delivered", x.letter(0, 6) * 10 + x.letter(2, 6), 22);
+    }
+
+    /** A COPY goes, and comes to the same NODE again in another way: the IMAGE has how it came first. */
+    private static void howACopyCame() {
+        SprayedLetters x = Check.told("node 99;node 99;node 99;node 99;");
+        x.send(0, 3, 5, 16, 60);
+        x.tick(2);
+        x.meet(0, 1, 9);
+        x.keep(0);
+        x.set(2, 2);
+        x.send(1, 0, 99, 1, 2);
+        check.due("it was dropped", x.node(1, 2) * 10 + x.rule(11), 11);
+        x.tick(3);
+        x.meet(0, 2, 9);
+        x.meet(2, 1, 9);
+        x.keep(1);
+        int[][] due = {{0, 8, 1, 2}, {0, 2, 2, 5}};
+        for (int i = 0; i < 4; i++) {
+            x.back(i % 2);
+            for (int what = 0; what < 4; what++) {
+                check.due("image " + i % 2 + ", copy(1, 0, " + what + ")", x.copy(1, 0, what), due[i % 2][what]);
+            }
+        }
     }
 
     private static void notTheTape() {

@@ -509,6 +509,15 @@ final class MeetingEdgesTest {
             }
         }
         check.due("no more", x.copy(0, 4, 0), NONE);
-        check.due("letter to the node's receiver or not, the order is the same", x.copy(2, 0, 0), 0);
+        // To whom a LETTER is does not count here: of more HOPS it is behind.
+        for (int to = 0; to < 4; to++) {
+            int giver = to == 0 ? 1 : 0;
+            int n = to == 3 ? 2 : 3;
+            SprayedLetters y = nodes(4);
+            y.send(giver, to, 1, 64, 90);
+            y.meet(giver, n, 99);
+            y.send(n, giver, 1, 64, 90);
+            check.due("to " + to + ": by hops", y.copy(n, 0, 0) * 10 + y.copy(n, 1, 0), 10);
+        }
     }
 }

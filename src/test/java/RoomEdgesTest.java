@@ -17,6 +17,7 @@ final class RoomEdgesTest {
         ofLikeOnesTheLeastLetter();
         neverOnesOwn();
         ownThatCameBack();
+        ownThatCameBackStays();
         canItNotFitNoneGoes();
         whatItComesOf();
         onlyForWhatIsHanded();
@@ -271,6 +272,29 @@ final class RoomEdgesTest {
         x.meet(1, 0, 99);
         check.due("and stays", which(x, 0, 2), 1);
         check.due("lost", x.letter(x.send(0, 1, 1, 1, 9), 6), 3);
+    }
+
+    /** What came back to FROM by hops stays, while by each policy it would go ahead of what goes. */
+    private static void ownThatCameBackStays() {
+        for (int policy = 1; policy < 4; policy++) {
+            SprayedLetters x = Check.told("node 20;node 30;node 0;");
+            x.set(1, 2);
+            x.set(2, policy);
+            x.send(0, 2, 11, 1, 20);
+            x.meet(1, 2, 0);
+            x.meet(0, 1, 99);
+            x.tick(1);
+            x.meet(0, 2, 0);
+            x.meet(0, 1, 99);
+            check.due("own, by two hops", x.copy(0, 0, 0) * 10 + x.copy(0, 0, 2), 2);
+            x.tick(1);
+            x.send(1, 2, 9, 4, 90);
+            check.due("another's beside it", x.meet(1, 0, 99), 1);
+            x.tick(1);
+            x.send(0, 1, 5, 1, 90);
+            check.due("policy " + policy + ": another's goes", which(x, 0, 3), 101);
+            check.due("dropped", x.rule(11), 1);
+        }
     }
 
     private static void canItNotFitNoneGoes() {

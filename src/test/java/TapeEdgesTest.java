@@ -25,6 +25,7 @@ final class TapeEdgesTest {
         faultOfTheLatestText();
         faultsChangeNothing();
         takenInPlaceOfWhatThereWas();
+        noCopiesBehindATakenText();
         check.finish();
     }
 
@@ -331,7 +332,12 @@ final class TapeEdgesTest {
         }
         fault("meet1 0 1 1;", 6, 12);
         fault("letter1 1 0 1 1 1;", 6, 18);
-        fault("node9;meet1 0 7 1;", 6, 18);
+        for (int n = 2; n < 8; n++) {
+            fault("node9;node9;meet1 0 " + n + " 1;", 6, 24);
+            fault("node9;node9;meet1 " + n + " 0 1;", 6, 24);
+            fault("node9;node9;letter1 0 " + n + " 1 1 1;", 6, 30);
+            fault("node9;node9;letter1 " + n + " 0 1 1 1;", 6, 30);
+        }
     }
 
     /** "the first met as it is read (a token is read when the one before has been taken)". */
@@ -425,5 +431,22 @@ final class TapeEdgesTest {
         check.due("no image 1", x.back(1), STATE);
         check.due("the next sent is the second", x.send(1, 0, 1, 1, 1), 1);
         check.due("no copies of the dead in new nodes", x.node(1, 2), 1);
+    }
+
+    /** The same text again, while there are COPIES of all that it tells. */
+    private static void noCopiesBehindATakenText() {
+        String text = "node 99;node 99;node 99;letter 1 0 2 5 8 60;letter 1 1 2 5 8 60;meet 1 0 1 99;";
+        SprayedLetters x = Check.told(text);
+        x.tick(1);
+        check.due("copies in both", x.rule(8), 4);
+        check.due("taken", Check.text(x, text), 6);
+        check.due("no copies", x.rule(8), 0);
+        for (int n = 0; n < 3; n++) {
+            check.due("copies, load of " + n, x.node(n, 1) + x.node(n, 2), 0);
+            check.due("first copy of " + n, x.copy(n, 0, 0), NONE);
+        }
+        check.due("of letter 0", x.letter(0, 9) + x.letter(0, 10), 0);
+        check.due("all again", x.tick(1), 2);
+        check.due("tokens", x.letter(0, 10), 8);
     }
 }

@@ -1,3 +1,5 @@
+import java.util.List;
+
 /**
  * Every number of every call: the last that is still taken on either side, with its answer, and the first
  * that is not; behind a refused call nothing has changed; of several answers the first that fits.
@@ -300,14 +302,17 @@ final class NumbersTest {
         twins.refused("letter, BAD", NumbersTest::eight, x -> x.letter(2, 7), BAD);
     }
 
+    /** Some questions at a time, so that the object stays within its 512 calls. */
     private static void askingChangesNothing() {
-        for (Twins.Calls made : new Twins.Calls[] {Twins::busy, Twins::sixteen, Twins::full, Twins::lonely, x -> { }}) {
-            twins.alike("asking", made, x -> {
-                made.on(x);
-                for (Twins.Asked asked : Twins.questions(true)) {
-                    asked.of(x);
-                }
-            }, true);
+        List<Twins.Asked> all = Twins.questions(true);
+        for (Twins.Calls made : List.<Twins.Calls>of(Twins::busy, Twins::sixteen, Twins::full, Twins::lonely, x -> { })) {
+            for (int i = 0; i < all.size(); i += 50) {
+                List<Twins.Asked> some = all.subList(i, Math.min(i + 50, all.size()));
+                twins.alike("asking from question " + i, made, x -> {
+                    made.on(x);
+                    some.forEach(asked -> asked.of(x));
+                }, true);
+            }
         }
     }
 

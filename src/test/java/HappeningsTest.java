@@ -227,74 +227,48 @@ final class HappeningsTest {
     }
 
     private static void images() {
-        SprayedLetters x = Check.told("node 20;node 20;node 20;letter 1 0 2 5 8 60;letter 4 0 2 18 8 60;meet 2 0 1 99;meet 9 1 2 99;");
-        check.due("no images", x.rule(18), 0);
-        x.tick(2);
-        check.due("hops, since", x.copy(1, 0, 2) + 10 * x.copy(1, 0, 3), 21);
-        check.due("keep(0)", x.keep(0), 0);
-        check.due("keep(0) again", x.keep(0), 1);
-        check.due("one image", x.rule(18), 1);
-        check.due("no image 1", x.back(1), STATE);
-        int[] before = whole(x);
-        x.set(0, 3);
-        x.set(1, 0);
-        x.set(2, 2);
-        x.set(3, 5);
-        x.tick(10);
-        x.send(1, 0, 3, 2, 9);
-        x.meet(1, 2, 99);
-        check.due("keep(1)", x.keep(1), 0);
-        int[] after = whole(x);
-        Check.feed(x, "node");
-        check.due("back(0)", x.back(0), 2);
-        same("back(0)", whole(x), before);
+        Twins.Calls first = x -> {
+            Check.text(x, "node 20;node 20;node 20;letter 1 0 2 5 8 60;letter 4 0 2 18 8 60;meet 2 0 1 99;meet 9 1 2 99;");
+            check.due("no images", x.rule(18), 0);
+            x.tick(2);
+            check.due("hops, since", x.copy(1, 0, 2) + 10 * x.copy(1, 0, 3), 21);
+            check.due("keep(0)", x.keep(0), 0);
+            check.due("keep(0) again", x.keep(0), 1);
+            check.due("one image", x.rule(18), 1);
+            check.due("no image 1", x.back(1), STATE);
+        };
+        Twins.Calls then = x -> {
+            first.on(x);
+            x.set(0, 3);
+            x.set(1, 0);
+            x.set(2, 2);
+            x.set(3, 5);
+            x.tick(10);
+            x.send(1, 0, 3, 2, 9);
+            x.meet(1, 2, 99);
+            check.due("keep(1)", x.keep(1), 0);
+        };
+        Twins.Calls back = x -> {
+            then.on(x);
+            Check.feed(x, "node");
+            check.due("back(0)", x.back(0), 2);
+        };
+        Twins.Calls forth = x -> {
+            back.on(x);
+            x.tick(3);
+            check.due("back(1)", x.back(1), 12);
+        };
+        check.due("it has changed", !Twins.whole(then).equals(Twins.whole(first)));
+        check.due("as image 0", Twins.whole(back).equals(Twins.whole(first)));
+        check.due("as image 1", Twins.whole(forth).equals(Twins.whole(then)));
+        SprayedLetters x = new SprayedLetters();
+        forth.on(x);
         check.due("the tape is not of it", x.rule(17), 4);
         check.due("images are not of it", x.rule(18), 2);
-        x.tick(3);
-        check.due("back(1)", x.back(1), 12);
-        same("back(1)", whole(x), after);
-        check.due("back(0) again", x.back(0), 2);
-        same("back(0) again", whole(x), before);
         check.due("a faulty text", x.text(), -14);
         check.due("back(1)", x.back(1), 12);
         check.due("the fault is of the latest text", x.fault(), 2);
-    }
-
-    private static void same(String call, int[] got, int[] want) {
-        for (int i = 0; i < want.length; i++) {
-            check.due(call + " answer " + i, got[i], want[i]);
-        }
-    }
-
-    /** All answers but of the tape, of the images. */
-    private static int[] whole(SprayedLetters x) {
-        int[] all = new int[2000];
-        int count = 0;
-        for (int what = 0; what <= 16; what++) {
-            all[count++] = x.rule(what);
-        }
-        for (int n = 0; n < 3; n++) {
-            for (int what = 0; what < 5; what++) {
-                all[count++] = x.node(n, what);
-            }
-            for (int i = 0; i < 4; i++) {
-                all[count++] = x.last(n, i);
-                all[count++] = x.note(n, i);
-                for (int what = 0; what < 4; what++) {
-                    all[count++] = x.copy(n, i, what);
-                }
-            }
-        }
-        for (int l = 0; l < 4; l++) {
-            for (int what = 0; what <= 10; what++) {
-                all[count++] = x.letter(l, what);
-            }
-            all[count++] = x.soonest(l);
-        }
-        for (int what = 0; what < 6; what++) {
-            all[count++] = x.refusal(what);
-            all[count++] = x.meeting(0, what);
-        }
-        return all;
+        check.due("back(0) again", x.back(0), 2);
+        check.due("the fault is of the latest text still", x.fault(), 2);
     }
 }

@@ -1,4 +1,3 @@
-import java.util.ArrayList;
 import java.util.List;
 
 /** Promises 21 and 22 at their edges: IMAGES that are not there, that are gone, and what they have and have not. */
@@ -77,18 +76,35 @@ final class ImageEdgesTest {
     }
 
     private static void anImageStaysAsItWas() {
-        SprayedLetters x = new SprayedLetters();
-        Twins.busy(x);
-        x.keep(0);
-        List<Integer> before = whole(x);
+        Twins.Calls kept = x -> {
+            Twins.busy(x);
+            x.keep(0);
+        };
+        List<Integer> before = Twins.whole(kept);
         for (int i = 0; i < 3; i++) {
-            change(x, i);
-            check.due("it has changed", !whole(x).equals(before));
-            check.due("back", x.back(0), 5);
-            check.due("as it was, time " + i, whole(x).equals(before));
+            int how = i;
+            check.due("it has changed", !Twins.whole(x -> {
+                kept.on(x);
+                change(x, how);
+            }).equals(before));
+            check.due("as it was, change " + i, Twins.whole(x -> {
+                kept.on(x);
+                change(x, how);
+                check.due("back", x.back(0), 5);
+            }).equals(before));
         }
-        check.due("back upon back", x.back(0) * 10 + x.back(0), 55);
-        check.due("as it was", whole(x).equals(before));
+        check.due("as it was, change upon change", Twins.whole(x -> {
+            kept.on(x);
+            for (int i = 0; i < 3; i++) {
+                change(x, i);
+                check.due("back", x.back(0), 5);
+            }
+        }).equals(before));
+        check.due("as it was, back upon back", Twins.whole(x -> {
+            kept.on(x);
+            change(x, 2);
+            check.due("back upon back", x.back(0) * 10 + x.back(0), 55);
+        }).equals(before));
     }
 
     private static void change(SprayedLetters x, int how) {
@@ -117,25 +133,37 @@ final class ImageEdgesTest {
             x.back(0);
             check.due("rule " + what, x.rule(4 + what), was);
         }
-        SprayedLetters x = Check.told("node 9;node 9;node 9;letter 1 0 1 5 2 9;letter 1 0 2 6 4 2;letter 1 2 0 9 1 9;");
-        x.tick(1);
-        x.keep(0);
-        List<Integer> before = whole(x);
-        x.meet(0, 1, 9);
-        x.meet(0, 2, 99);
-        x.meet(1, 2, 1);
-        x.tick(3);
-        x.keep(1);
-        List<Integer> after = whole(x);
+        Twins.Calls first = x -> {
+            Check.text(x, "node 9;node 9;node 9;letter 1 0 1 5 2 9;letter 1 0 2 6 4 2;letter 1 2 0 9 1 9;");
+            x.tick(1);
+            x.keep(0);
+        };
+        Twins.Calls then = x -> {
+            first.on(x);
+            x.meet(0, 1, 9);
+            x.meet(0, 2, 99);
+            x.meet(1, 2, 1);
+            x.tick(3);
+            x.keep(1);
+        };
+        check.due("before", Twins.whole(x -> {
+            then.on(x);
+            x.back(0);
+        }).equals(Twins.whole(first)));
+        check.due("after", Twins.whole(x -> {
+            then.on(x);
+            x.back(0);
+            x.back(1);
+        }).equals(Twins.whole(then)));
+        SprayedLetters x = new SprayedLetters();
+        then.on(x);
         x.back(0);
-        check.due("before", whole(x).equals(before));
         check.due("no refusal yet", x.refusal(0), STATE);
         check.due("never met", x.last(0, 1), SprayedLetters.NONE);
         check.due("no notes", x.node(0, 3) + x.node(1, 3) + x.node(2, 3), 0);
         check.due("not delivered", x.letter(0, 6) * 10 + x.letter(2, 6), 11);
         check.due("no counts", x.rule(9) + x.rule(10) + x.rule(11) + x.rule(12) + x.rule(13) + x.rule(15) + x.rule(16), 0);
         x.back(1);
-        check.due("after", whole(x).equals(after));
         check.due("delivered", x.letter(0, 6) * 10 + x.letter(2, 6), 22);
     }
 
@@ -233,17 +261,5 @@ final class ImageEdgesTest {
         check.due("back(1)", x.back(1), 7);
         check.due("round", x.rule(4), 5);
         check.due("no nodes", x.rule(0), 0);
-    }
-
-    /** All answers but those of THE TAPE and of IMAGES. */
-    private static List<Integer> whole(SprayedLetters x) {
-        List<Integer> all = new ArrayList<>();
-        List<Twins.Asked> questions = Twins.questions(false);
-        for (int i = 0; i < questions.size(); i++) {
-            if (i != 17 && i != 18) {
-                all.add(questions.get(i).of(x));
-            }
-        }
-        return all;
     }
 }

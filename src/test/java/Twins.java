@@ -51,6 +51,13 @@ final class Twins {
         }
     }
 
+    /** All answers of an object that is made so, but those of THE TAPE, of its FAULT and of IMAGES. */
+    static List<Integer> whole(Calls made) {
+        List<Integer> all = answers(made, NOTHING, false);
+        all.subList(17, 19).clear();
+        return all;
+    }
+
     /** All that an object answers, each some questions by an object that is made anew. */
     private static List<Integer> answers(Calls made, Calls later, boolean withFault) {
         List<Asked> questions = questions(withFault);

@@ -9,6 +9,7 @@ import java.util.Random;
  */
 final class ModelTest {
     private static final int RUNS = 2500;
+    private static final int SHORT_TEXTS = 40000;
     private static final int CALLS = 512;
     /** What happens takes some so many calls, so that some are left for questions. */
     private static final int CALLS_THAT_CHANGE = 400;
@@ -34,6 +35,16 @@ final class ModelTest {
             t.run();
             if (check.wrong() != 0) {
                 System.out.println("run " + run + ": " + t.rows);
+            }
+        }
+        for (int text = 0; text < SHORT_TEXTS && check.wrong() == 0; text++) {
+            ModelTest t = new ModelTest(-1 - text);
+            t.tell(t.shortText());
+            for (int what = 0; what < 3; what++) {
+                t.ask(new Row("rule", what));
+            }
+            if (check.wrong() != 0) {
+                System.out.println("short text " + text + ": " + t.rows);
             }
         }
         check.finish();
@@ -140,6 +151,22 @@ final class ModelTest {
 
     private String letterLine(int nodes, int size) {
         return "letter" + from(1, 12) + " " + pair(nodes) + from(1, size) + " " + from(1, 9) + " " + from(1, 40) + ";";
+    }
+
+    /** Some lines, in whose tokens and blanks there is often something wrong. */
+    private String shortText() {
+        String[] wrong = {"node", "meet", "letter", "nodes", "n", ";", "0", "8", "64", "65", "99", "100", "00", "?", ""};
+        int often = 4 + below(30);
+        StringBuilder t = new StringBuilder();
+        int lines = 1 + below(4);
+        for (int i = 0; i < lines; i++) {
+            String line = below(3) == 0 ? "node " + below(100) + ";" : below(2) == 0 ? meetLine(3) : letterLine(3, 99);
+            for (String token : line.replace(";", " ;").split("(?<=[a-z])(?=[0-9])| ")) {
+                t.append(below(often) == 0 ? wrong[below(wrong.length)] : token);
+                t.append(below(often) == 0 ? "" : " ".repeat(1 + below(2)));
+            }
+        }
+        return t.toString();
     }
 
     private String spoilt(String text) {

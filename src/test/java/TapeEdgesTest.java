@@ -22,6 +22,7 @@ final class TapeEdgesTest {
         pairs();
         nodesThatAreNot();
         theFirstFault();
+        whateverIsBehindAFault();
         faultOfTheLatestText();
         faultsChangeNothing();
         takenInPlaceOfWhatThereWas();
@@ -360,6 +361,36 @@ final class TapeEdgesTest {
         fault("meet 1 0 1 1;node", 2, 17);
         fault("meet 1 0 1 1;" + EIGHT + "node", 4, 61);
         fault("node 5?;node 100;", 1, 6);
+    }
+
+    /** What stands behind the token of a FAULT is not read: be it a token or none, right or wrong. */
+    private static void whateverIsBehindAFault() {
+        String[] behind = {"", " ", "?", " ?", " 100", " node", ";", " ;?", " 9", " 1?", " 0 100"};
+        for (String b : behind) {
+            fault("?" + b, 1, 0);
+            fault("node ?" + b, 1, 5);
+            fault("node 123" + b, 1, 5);
+            fault("node 5 123" + b, 1, 7);
+            fault(";" + b, 2, 0);
+            fault("12" + b, 2, 0);
+            fault("nodes" + b, 2, 0);
+            fault("node node" + b, 2, 5);
+            fault("node 5 9" + b, 2, 7);
+            fault("meet 1 2 3;" + b, 2, 10);
+            fault("meet 0" + b, 3, 5);
+            fault("meet 1 8" + b, 3, 7);
+            fault("meet 1 2 8" + b, 3, 9);
+            fault("letter 0" + b, 3, 7);
+            fault("letter 1 8" + b, 3, 9);
+            fault("letter 1 2 8" + b, 3, 11);
+            fault("letter 1 2 3 0" + b, 3, 13);
+            fault("letter 1 2 3 1 0" + b, 3, 15);
+            fault("letter 1 2 3 1 65" + b, 3, 15);
+            fault("letter 1 2 3 1 1 0" + b, 3, 17);
+            fault(EIGHT + "node" + b, 4, 48);
+            fault("meet 1 2 2" + b, 5, 9);
+            fault("letter 1 2 2" + b, 5, 11);
+        }
     }
 
     private static void faultOfTheLatestText() {

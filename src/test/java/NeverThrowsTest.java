@@ -23,15 +23,15 @@ final class NeverThrowsTest {
     private static void go(Random random) {
         SprayedLetters x = new SprayedLetters();
         for (int i = 0; i < CALLS; i++) {
-            if (random.nextInt(400) == 0) {
-                x.end(0);
-                check.due("a text is taken", Check.text(x, text(random)) > 0);
-            }
             Row row = row(random);
             try {
+                if (random.nextInt(400) == 0) {
+                    x.end(0);
+                    Check.text(x, text(random));
+                }
                 row.of(x);
             } catch (RuntimeException e) {
-                check.due(row + " threw " + e, false);
+                check.due(row + ", or a text ahead of it, threw " + e, false);
                 return;
             }
         }
